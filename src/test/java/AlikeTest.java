@@ -3,6 +3,7 @@ public final class AlikeTest {
     public static void main(String[] args) {
         comparesLengths();
         comparesLetters();
+        comparesTheFirstLetter();
         comparesLettersNotChanges();
         deletedLettersDontCount();
         refuses();
@@ -43,6 +44,15 @@ public final class AlikeTest {
         dueAlike(x, 0, 2, 0);
         dueAlike(x, 1, 2, 0);
         dueAlike(x, 2, 2, 1);
+    }
+
+    private static void comparesTheFirstLetter() {
+        TextReplica x = new TextReplica();
+        x.insert(0, 0, 1);
+        x.insert(0, 1, 5);
+        x.insert(1, 0, 2);
+        x.insert(1, 1, 5);
+        dueAlike(x, 0, 1, 0);
     }
 
     private static void comparesLettersNotChanges() {

@@ -17,7 +17,7 @@ public final class LengthTest {
         Check.due("length(2)", x.length(2), 0);
         x.sync(0, 1);
         Check.due("length(1) after sync", x.length(1), 3);
-        x.delete(1, 1);
+        x.delete(1, 0);
         Check.due("length(1) after delete", x.length(1), 2);
         Check.due("length(0) before it knows the delete", x.length(0), 2);
         x.sync(1, 0);
