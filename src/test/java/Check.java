@@ -1,6 +1,16 @@
 /** What the tests share: comparing answers, and reading off an object's whole visible state. */
 final class Check {
-    static final int[] WRONG_REPLICAS = {-1, 3, 4, Integer.MIN_VALUE, Integer.MAX_VALUE};
+    // Just outside, then far outside; among these some that a cut to fewer bits, or a product with 3 that
+    // wraps around, would turn into the number of a replica.
+    static final int[] WRONG_REPLICAS = {
+        -1, 3, -2, 4, -3, 5, 9, 256, 65537, 0x55555555, 0x55555556, -0x55555555,
+        Integer.MIN_VALUE, Integer.MIN_VALUE + 1, Integer.MAX_VALUE - 1, Integer.MAX_VALUE
+    };
+    // Far outside of every text.
+    static final int[] FAR_PLACES = {
+        -48, 49, -256, 256, -65536, 65537, Integer.MIN_VALUE, Integer.MIN_VALUE + 1,
+        Integer.MAX_VALUE - 1, Integer.MAX_VALUE
+    };
 
     private static int wrong = 0;
 
