@@ -3,6 +3,7 @@ public final class DeleteBoundsTest {
     public static void main(String[] args) {
         theFirstAndTheLastLetterAreTaken();
         placesOutsideAreRefused();
+        wrongReplicasAreRefused();
         anEmptyTextHasNone();
         anEmptiedTextHasNone();
         thePlaceIsThatOfTheShownText();
@@ -43,6 +44,15 @@ public final class DeleteBoundsTest {
 
     private static void refusedAt(int count, int place) {
         Unmoved.due("delete at " + place + " of " + count, () -> Starts.shared(count), x -> x.delete(1, place), -1);
+    }
+
+    private static void wrongReplicasAreRefused() {
+        for (int wrong : Check.WRONG_REPLICAS) {
+            for (int place : new int[] {0, 2, 3}) {
+                Unmoved.due("delete(" + wrong + ", " + place + ")", () -> Starts.shared(3),
+                    x -> x.delete(wrong, place), -1);
+            }
+        }
     }
 
     private static void anEmptyTextHasNone() {

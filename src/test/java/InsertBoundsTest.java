@@ -6,6 +6,7 @@ public final class InsertBoundsTest {
         placeOneHasTheFirstLetterAsAnchor();
         theLengthIsTheLastPlace();
         placesOutsideAreRefused();
+        wrongReplicasAreRefused();
         theLengthIsThatOfTheShownText();
         theLengthIsThatOfTheReplicasOwnText();
         the48thChangeIsTaken();
@@ -80,6 +81,15 @@ public final class InsertBoundsTest {
 
     private static void refusedAt(int count, int place) {
         Unmoved.due("insert at " + place + " of " + count, () -> Starts.shared(count), x -> x.insert(1, place, 90), -1);
+    }
+
+    private static void wrongReplicasAreRefused() {
+        for (int wrong : Check.WRONG_REPLICAS) {
+            for (int place : new int[] {0, 3, 4}) {
+                Unmoved.due("insert(" + wrong + ", " + place + ", 90)", () -> Starts.shared(3),
+                    x -> x.insert(wrong, place, 90), -1);
+            }
+        }
     }
 
     private static TextReplica twoOfFiveShown() {
