@@ -31,8 +31,9 @@ public final class NewObjectBoundsTest {
             Unmoved.due("insert(" + r + ", 1, 9) on a new object", TextReplica::new, x -> x.insert(r, 1, 9), -1);
             for (int to = 0; to < 3; to++) {
                 int t = to;
-                Unmoved.due("deliver(" + r + ", " + t + ") on a new object", TextReplica::new, x -> x.deliver(r, t), -1);
-                Unmoved.due("sync(" + r + ", " + t + ") on a new object", TextReplica::new, x -> x.sync(r, t), 0);
+                String pair = "(" + r + ", " + t + ") on a new object";
+                Unmoved.due("deliver" + pair, TextReplica::new, x -> x.deliver(r, t), -1);
+                Unmoved.due("sync" + pair, TextReplica::new, x -> x.sync(r, t), 0);
             }
         }
     }
@@ -43,6 +44,16 @@ public final class NewObjectBoundsTest {
         Unmoved.due("row(0)", TextReplica::new, x -> x.row(0), 0);
         Unmoved.due("known(0, 0)", TextReplica::new, x -> x.known(0, 0), 0);
         Unmoved.due("alike(0, 1)", TextReplica::new, x -> x.alike(0, 1), 1);
+        askedLater();
+    }
+
+    /** One letter alone leaves the stamps of all later inserts open to be moved; spread has deletes too. */
+    private static void askedLater() {
+        Unmoved.due("length(0) of one letter", () -> Starts.letters(0, 1), x -> x.length(0), 1);
+        Unmoved.due("letter(0, 0) of one letter", () -> Starts.letters(0, 1), x -> x.letter(0, 0), 1);
+        Unmoved.due("row(0) of one letter", () -> Starts.letters(0, 1), x -> x.row(0), 1);
+        Unmoved.due("known(0, 0) of one letter", () -> Starts.letters(0, 1), x -> x.known(0, 0), 1);
+        Unmoved.due("alike(0, 1) of one letter", () -> Starts.letters(0, 1), x -> x.alike(0, 1), 0);
         Unmoved.due("length(1) later", Starts::spread, x -> x.length(1), 2);
         Unmoved.due("letter(1, 1) later", Starts::spread, x -> x.letter(1, 1), 20);
         Unmoved.due("row(1) later", Starts::spread, x -> x.row(1), 3);

@@ -39,6 +39,7 @@ public final class ReplicaNumberBoundsTest {
 
     private static void refused(String call, ToIntFunction<TextReplica> made, int want) {
         Unmoved.due(call, TextReplica::new, made, want);
+        Unmoved.due(call, () -> Starts.letters(0, 1), made, want);
         Unmoved.due(call, Starts::spread, made, want);
     }
 
@@ -76,10 +77,11 @@ public final class ReplicaNumberBoundsTest {
 
     private static void wrongNumbersAreRefusedByAFullObject() {
         for (int wrong : new int[] {-1, 3, Integer.MIN_VALUE, Integer.MAX_VALUE}) {
-            Unmoved.due("insert(" + wrong + ", 0, 9) when full", () -> Starts.mixed(48), x -> x.insert(wrong, 0, 9), -1);
-            Unmoved.due("delete(" + wrong + ", 0) when full", () -> Starts.mixed(48), x -> x.delete(wrong, 0), -1);
-            Unmoved.due("deliver(" + wrong + ", 0) when full", () -> Starts.mixed(48), x -> x.deliver(wrong, 0), -1);
-            Unmoved.due("sync(0, " + wrong + ") when full", () -> Starts.mixed(48), x -> x.sync(0, wrong), -1);
+            String full = " of a full object, replica " + wrong;
+            Unmoved.due("insert" + full, () -> Starts.mixed(48), x -> x.insert(wrong, 0, 9), -1);
+            Unmoved.due("delete" + full, () -> Starts.mixed(48), x -> x.delete(wrong, 0), -1);
+            Unmoved.due("deliver" + full, () -> Starts.mixed(48), x -> x.deliver(wrong, 0), -1);
+            Unmoved.due("sync" + full, () -> Starts.mixed(48), x -> x.sync(0, wrong), -1);
         }
     }
 }

@@ -12,18 +12,24 @@ import java.util.function.ToIntFunction;
 final class Unmoved {
     private static final List<Consumer<Told>> SEQUELS = List.of(
         Told::readAll, Told::insertOn, Told::deleteOn, Told::deliverOn, Told::syncOn, Told::fillUp);
+    // A small shift may hide behind one call and show only when calls add up.
+    private static final int[] TIMES = {1, 5};
 
     private Unmoved() {
     }
 
     static void due(String name, Supplier<TextReplica> start, ToIntFunction<TextReplica> call, int want) {
         for (Consumer<Told> sequel : SEQUELS) {
-            Told without = new Told(start.get());
-            Told with = new Told(start.get());
-            Check.due(name, call.applyAsInt(with.x), want);
-            sequel.accept(without);
-            sequel.accept(with);
-            compare(name, with.rows, without.rows);
+            for (int times : TIMES) {
+                Told without = new Told(start.get());
+                Told with = new Told(start.get());
+                for (int i = 0; i < times; i++) {
+                    Check.due(name, call.applyAsInt(with.x), want);
+                }
+                sequel.accept(without);
+                sequel.accept(with);
+                compare(name + " (" + times + " times)", with.rows, without.rows);
+            }
         }
     }
 
